@@ -150,6 +150,7 @@ public final class TriedTest {
         Check.due("23: three", x.rents(0), 3);
         Check.due("23: three, too", x.rents(1), 3);
         rentsWithTwoCells();
+        rentsWithoutEnd();
     }
 
     /** The first one has a cell that nobody is beside: he asks, and the other one may follow. */
@@ -162,6 +163,24 @@ public final class TriedTest {
         Check.due("23: both rounds", x.rents(Check.NONE), 1);
         Check.due("23: the first", x.rents(0), 3);
         Check.due("23: no rent beside is less", x.rents(1), 3);
+    }
+
+    /**
+     * Heat from north to south 97 beside 112, then 184, 117, 195; owners 0 beside 1, then 1, 2, 2. From the third round
+     * on the second one asks 1 and 3 by turns, the third one 3 and 2.
+     */
+    private static void rentsWithoutEnd() {
+        FirstFelt x = Check.townOf("t5 4 99;w0 2 1;w2 2 0;w0 0 1;w2 2 1;w0 1 1;o3 3 60 99;o3 1 55 99;o0 0 42 99;"
+                + "p2 0 21 1 0;p3 1 24 2 9;p3 3 22 3 6;");
+        x.seed(802697);
+        for (int k = 0; k < 3; k++) {
+            x.light(k);
+        }
+        x.drift(2);
+        for (int p = Check.NONE; p < 3; p++) {
+            Check.due("23: no end, " + p, x.rents(p), Check.NONE);
+        }
+        Check.due("23: unknown all the same", x.rents(3), Check.UNKNOWN);
     }
 
     private static void claims() {

@@ -11,6 +11,7 @@ public final class TownTest {
         faults();
         faultsOfMany();
         faultsOfBlanksAndEnds();
+        faultsAtTheLastLetter();
         told();
         cell();
         wall();
@@ -145,6 +146,7 @@ public final class TownTest {
         fault("t2 2 1;o0 0 60 100;", 2, 15);
         fault("t2 2 1;o2 0 60 1;", 2, 8);
         fault("t2 2 1;o0 0 9 1;o0 0 99 1;", 4, 19);
+        fault("t2 2 1;o0 0 9 1;o1 0 9 1;o1 0 9 1;", 4, 28);
         fault("t2 2 1;r0 0;r0 0;", 4, 15);
         fault("t2 2 1;r0 2;", 2, 10);
         fault("t2 2 1;s31;", 2, 8);
@@ -207,6 +209,17 @@ public final class TownTest {
         good("   ", 0);
         good(" t 1 1 1 ; s 1 , 2 ; ", 1);
         good("t1 1 1;p0 0 0 1 0;", 1);
+    }
+
+    /** Texts of 260 letters, which end within each clause. */
+    private static void faultsAtTheLastLetter() {
+        String[] ends = {"t", "t2", "t2 2", "t2 2 1", "t2 2 1;w", "t2 2 1;w0 0 0", "t2 2 1;o0", "t2 2 1;o0 0 1 1", "t2 2 1;r0 0",
+            "t2 2 1;s", "t2 2 1;s1", "t2 2 1;s1,", "t2 2 1;s1,2,3,4,5,6,7,8", "t2 2 1;p", "t2 2 1;p0 0 1 1 1"};
+        for (String end : ends) {
+            fault(" ".repeat(260 - end.length()) + end, 1, 260);
+        }
+        good(" ".repeat(260), 0);
+        good(" ".repeat(253) + "t2 2 1;", 4);
     }
 
     private static void told() {

@@ -88,6 +88,9 @@ public final class TriedTest {
         x = Check.townOf("t1 1 10;o0 0 60 9;p0 0 50 20 0;");
         Check.due("20: not in one", x.lightFor(0, 0, 1), Check.NONE);
         Check.due("20: in two", x.lightFor(0, 0, 2), 0);
+        x = Check.townOf("t1 1 49;o0 0 60 9;p0 0 40 5 0;p0 0 30 60 0;");
+        Check.due("20: best not at all", x.lightFor(0, 0, 1), 1);
+        Check.due("20: for the other at once", x.lightFor(1, 0, 1), 0);
         x = Check.townOf("t1 1 100;o0 0 60 0;p0 0 0 1 0;");
         Check.due("20: no wood", x.lightFor(0, 0, 1), Check.NOT);
     }
@@ -226,6 +229,15 @@ public final class TriedTest {
         Check.due("26: law below", x.cold(-1, 1), Check.OUTSIDE);
         Check.due("26: n", x.cold(0, 0), Check.OUTSIDE);
         Check.due("26: n above", x.cold(0, 61), Check.OUTSIDE);
+        // The same with the owner behind the other one, and the cold cell to the west, the north, the south.
+        String[] others = {"t2 1 0;o1 0 60 1;p1 0 7 60 0;p1 0 10 1 0;", "t1 2 0;o0 1 60 1;p0 1 7 60 0;p0 1 10 1 0;",
+            "t1 2 0;o0 0 60 1;p0 0 7 60 0;p0 0 10 1 0;"};
+        for (String other : others) {
+            x = Check.townOf(other);
+            x.light(0);
+            x.minute(1);
+            Check.due("26: he must go, " + other, x.cold(0, 1), 1);
+        }
         x = Check.townOf("t1 1 0;p0 0 100 1 0;p0 0 24 1 0;");
         Check.due("26: both in time", x.cold(0, 60), 2);
         Check.due("26: one at first", x.cold(0, 1), 1);
@@ -244,6 +256,9 @@ public final class TriedTest {
         Check.due("26: law 3", x.cold(3, 2), 0);
         Check.due("27: the least of the mild ones", x.mildest(2), 2);
         Check.due("27: of like ones the least", x.mildest(1), 0);
+        x.go(0, 4);
+        Check.due("26: law 2, he is back", x.cold(2, 2), 1);
+        Check.due("27: only as partners", x.mildest(2), 3);
         Check.due("27: n", x.mildest(0), Check.OUTSIDE);
         Check.due("27: n above", x.mildest(61), Check.OUTSIDE);
         Check.due("27: without cells", new FirstFelt().mildest(60), 0);
@@ -282,6 +297,14 @@ public final class TriedTest {
         Check.due("29: it burns", x.wasLit(0, Check.NONE), Check.NOT);
         x.minute(9);
         Check.due("29: no wood", x.wasLit(0, Check.NONE), Check.NOT);
+        x = Check.townOf("t1 1 10;o0 0 60 9;p0 0 50 20 0;");
+        x.deed(0, 0, 2);
+        // Behind a minute his skin is 40, so that the first minute's 69 are enough.
+        Check.due("29: now and next", x.wasLit(0, Check.NONE), 2);
+        Check.due("29: now", x.wasLit(0, 0), 0);
+        Check.due("29: next", x.wasLit(0, 1), 1);
+        x.deed(0, 0, 1);
+        Check.due("29: too early", x.wasLit(0, Check.NONE), 0);
     }
 
     private static void tear() {

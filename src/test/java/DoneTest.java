@@ -1,4 +1,4 @@
-/** Promises 10 to 17: go, build, light, stoke, law, last, minute, drift; all numbers were reckoned by hand. */
+/** Promises 10 to 17: go, build, light, stoke, law, last, minute, drift; numbers were reckoned by hand, those of draws by another program. */
 public final class DoneTest {
     public static void main(String[] args) {
         go();

@@ -1,4 +1,4 @@
-/** Promises 18 to 33: tried, draws, images; all numbers were reckoned by hand. */
+/** Promises 18 to 33: tried, draws, images; numbers were reckoned by hand, but where told. */
 public final class TriedTest {
     /** Lit now or in one of two minutes, the second one feels it first; lit later the first one does. */
     private static final String RIVALS = "t1 1 49;o0 0 30 9;p0 0 100 5 0;p0 0 40 35 0;";
@@ -170,7 +170,8 @@ public final class TriedTest {
 
     /**
      * Heat from north to south 97 beside 112, then 184, 117, 195; owners 0 beside 1, then 1, 2, 2. From the third round
-     * on the second one asks 1 and 3 by turns, the third one 3 and 2.
+     * on the second one asks 1 and 3 by turns, the third one 3 and 2. The town was found by a search, and its heats are the
+     * program's and PlainTown's; only the rounds were gone through by hand.
      */
     private static void rentsWithoutEnd() {
         FirstFelt x = Check.townOf("t5 4 99;w0 2 1;w2 2 0;w0 0 1;w2 2 1;w0 1 1;o3 3 60 99;o3 1 55 99;o0 0 42 99;"

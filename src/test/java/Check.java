@@ -8,6 +8,9 @@ final class Check {
 
     private static int right = 0;
     private static int wrong = 0;
+    /** Ahead of each line that is printed: the test and its sentence. */
+    private static String heading = "";
+    private static boolean quiet = false;
 
     private Check() {
     }
@@ -16,9 +19,28 @@ final class Check {
         if (got == want) {
             right++;
         } else {
-            wrong++;
-            System.out.println(what + " answered " + got + ", due is " + want);
+            fail(what + " answered " + got + ", due is " + want);
         }
+    }
+
+    static void fail(String how) {
+        wrong++;
+        if (!quiet) {
+            System.out.println(heading + how);
+        }
+    }
+
+    static void head(String text) {
+        heading = text;
+    }
+
+    /** For programs with a fault put into them: their wrong answers are counted, not printed. */
+    static void beQuiet() {
+        quiet = true;
+    }
+
+    static int wrongOnes() {
+        return wrong;
     }
 
     static void feedAll(FirstFelt x, String text) {
@@ -33,14 +55,32 @@ final class Check {
         feedAll(x, text);
         int cells = x.town();
         if (cells < 0) {
-            wrong++;
-            System.out.println("the town \"" + text + "\" has a fault: " + cells + " at " + x.fault());
+            fail("the town \"" + text + "\" has a fault: " + cells + " at " + x.fault());
         }
         return x;
     }
 
+    /** A text that has that fault at that letter. */
+    static void fault(String text, int number, int letter) {
+        FirstFelt x = new FirstFelt();
+        feedAll(x, text);
+        due("town \"" + text + "\"", x.town(), -10 - number);
+        due("fault \"" + text + "\"", x.fault(), letter);
+    }
+
+    /** A text without a fault, told behind one that had one. */
+    static void good(String text, int cells) {
+        FirstFelt x = new FirstFelt();
+        feedAll(x, "x");
+        x.town();
+        feedAll(x, text);
+        due("town \"" + text + "\"", x.town(), cells);
+        due("fault \"" + text + "\"", x.fault(), NONE);
+    }
+
     /** Ends the test, with exit code 1 if an answer was not the one that is due. */
     static void end(String name) {
+        head("");
         System.out.println(name + ": " + right + " answers as due, " + wrong + " not");
         if (wrong != 0) {
             System.exit(1);

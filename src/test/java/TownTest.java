@@ -105,66 +105,50 @@ public final class TownTest {
         Check.due("3: the seed stays", x.seed(0), 99);
     }
 
-    private static void fault(String text, int number, int letter) {
-        FirstFelt x = new FirstFelt();
-        Check.feedAll(x, text);
-        Check.due("3: town \"" + text + "\"", x.town(), -10 - number);
-        Check.due("4: fault \"" + text + "\"", x.fault(), letter);
-    }
-
-    private static void good(String text, int cells) {
-        FirstFelt x = new FirstFelt();
-        Check.feedAll(x, "x");
-        x.town();
-        Check.feedAll(x, text);
-        Check.due("3: town \"" + text + "\"", x.town(), cells);
-        Check.due("4: fault \"" + text + "\"", x.fault(), Check.NONE);
-    }
-
     private static void faults() {
-        fault("w0 0 0;", 1, 0);
-        fault("x", 1, 0);
-        fault("T1 1 1;", 1, 0);
-        fault("t0 1 1;", 2, 1);
-        fault("t7 1 1;", 2, 1);
-        fault("t1 0 1;", 2, 3);
-        fault("t1 7 1;", 2, 3);
-        fault("t4 6 1;", 2, 3);
-        fault("t1 1 201;", 2, 5);
-        fault("t1 1 0001;", 2, 5);
-        fault("t0001 1 1;", 2, 1);
-        fault("t1 1 99999999999999999999;", 2, 5);
-        fault("t1 1 4294967297;", 2, 5);
-        fault("t2 2 1;w2 0 0;", 2, 8);
-        fault("t2 2 1;w0 2 0;", 2, 10);
-        fault("t2 2 1;w0 0 2;", 2, 12);
-        fault("t2 2 1;w1 0 0;", 2, 12);
-        fault("t2 2 1;w0 1 1;", 2, 12);
-        fault("t2 2 1;w0 0 1;w0 0 1;", 4, 19);
-        fault("t2 2 1;o0 0 0 1;", 2, 12);
-        fault("t2 2 1;o0 0 61 1;", 2, 12);
-        fault("t2 2 1;o0 0 60 100;", 2, 15);
-        fault("t2 2 1;o2 0 60 1;", 2, 8);
-        fault("t2 2 1;o0 0 9 1;o0 0 99 1;", 4, 19);
-        fault("t2 2 1;o0 0 9 1;o1 0 9 1;o1 0 9 1;", 4, 28);
-        fault("t2 2 1;r0 0;r0 0;", 4, 15);
-        fault("t2 2 1;r0 2;", 2, 10);
-        fault("t2 2 1;s31;", 2, 8);
-        fault("t2 2 1;s1,31;", 2, 10);
-        fault("t2 2 1;s1;s1;", 3, 10);
-        fault("t2 2 1;s1,2,3,4,5,6,7,8,9;", 1, 23);
-        fault("t2 2 1;s,1;", 1, 8);
-        fault("t2 2 1;s1 2;", 1, 10);
-        fault("t2 2 1;p0 0 301 1 0;", 2, 12);
-        fault("t2 2 1;p0 0 300 0 0;", 2, 16);
-        fault("t2 2 1;p0 0 300 61 0;", 2, 16);
-        fault("t2 2 1;p0 0 300 60 10;", 2, 19);
-        fault("t2 2 1;p2 0 300 60 9;", 2, 8);
-        fault("t1 1 1;t", 3, 7);
-        fault("t1 1 1;t1 1 1;", 3, 7);
-        good("t2 2 0;w0 0 0;w0 0 1;w1 0 1;w0 1 0;o1 1 60 99;o0 0 1 0;r1 1;s0,30,1,2,3,4,5,6;p1 1 300 60 9;p0 0 0 1 0;", 4);
-        good("t6 3 200;", 18);
-        good("t1 6 200;", 6);
+        Check.fault("w0 0 0;", 1, 0);
+        Check.fault("x", 1, 0);
+        Check.fault("T1 1 1;", 1, 0);
+        Check.fault("t0 1 1;", 2, 1);
+        Check.fault("t7 1 1;", 2, 1);
+        Check.fault("t1 0 1;", 2, 3);
+        Check.fault("t1 7 1;", 2, 3);
+        Check.fault("t4 6 1;", 2, 3);
+        Check.fault("t1 1 201;", 2, 5);
+        Check.fault("t1 1 0001;", 2, 5);
+        Check.fault("t0001 1 1;", 2, 1);
+        Check.fault("t1 1 99999999999999999999;", 2, 5);
+        Check.fault("t1 1 4294967297;", 2, 5);
+        Check.fault("t2 2 1;w2 0 0;", 2, 8);
+        Check.fault("t2 2 1;w0 2 0;", 2, 10);
+        Check.fault("t2 2 1;w0 0 2;", 2, 12);
+        Check.fault("t2 2 1;w1 0 0;", 2, 12);
+        Check.fault("t2 2 1;w0 1 1;", 2, 12);
+        Check.fault("t2 2 1;w0 0 1;w0 0 1;", 4, 19);
+        Check.fault("t2 2 1;o0 0 0 1;", 2, 12);
+        Check.fault("t2 2 1;o0 0 61 1;", 2, 12);
+        Check.fault("t2 2 1;o0 0 60 100;", 2, 15);
+        Check.fault("t2 2 1;o2 0 60 1;", 2, 8);
+        Check.fault("t2 2 1;o0 0 9 1;o0 0 99 1;", 4, 19);
+        Check.fault("t2 2 1;o0 0 9 1;o1 0 9 1;o1 0 9 1;", 4, 28);
+        Check.fault("t2 2 1;r0 0;r0 0;", 4, 15);
+        Check.fault("t2 2 1;r0 2;", 2, 10);
+        Check.fault("t2 2 1;s31;", 2, 8);
+        Check.fault("t2 2 1;s1,31;", 2, 10);
+        Check.fault("t2 2 1;s1;s1;", 3, 10);
+        Check.fault("t2 2 1;s1,2,3,4,5,6,7,8,9;", 1, 23);
+        Check.fault("t2 2 1;s,1;", 1, 8);
+        Check.fault("t2 2 1;s1 2;", 1, 10);
+        Check.fault("t2 2 1;p0 0 301 1 0;", 2, 12);
+        Check.fault("t2 2 1;p0 0 300 0 0;", 2, 16);
+        Check.fault("t2 2 1;p0 0 300 61 0;", 2, 16);
+        Check.fault("t2 2 1;p0 0 300 60 10;", 2, 19);
+        Check.fault("t2 2 1;p2 0 300 60 9;", 2, 8);
+        Check.fault("t1 1 1;t", 3, 7);
+        Check.fault("t1 1 1;t1 1 1;", 3, 7);
+        Check.good("t2 2 0;w0 0 0;w0 0 1;w1 0 1;w0 1 0;o1 1 60 99;o0 0 1 0;r1 1;s0,30,1,2,3,4,5,6;p1 1 300 60 9;p0 0 0 1 0;", 4);
+        Check.good("t6 3 200;", 18);
+        Check.good("t1 6 200;", 6);
     }
 
     private static void faultsOfMany() {
@@ -179,36 +163,36 @@ public final class TownTest {
             people.append("p0 0 0 1 0;");
         }
         String stoves = "t5 4 0;o0 0 1 1;o1 0 1 1;o2 0 1 1;o3 0 1 1;";
-        good(people.toString(), 20);
-        fault(people + "p", 3, people.length());
-        good(walls.toString(), 20);
-        fault(walls + "w0 3 0;", 3, walls.length());
-        good(roofs.toString(), 20);
-        fault(roofs + "r0 3;", 3, roofs.length());
-        good(stoves, 20);
-        fault(stoves + " o4 0 1 1;", 3, stoves.length() + 1);
+        Check.good(people.toString(), 20);
+        Check.fault(people + "p", 3, people.length());
+        Check.good(walls.toString(), 20);
+        Check.fault(walls + "w0 3 0;", 3, walls.length());
+        Check.good(roofs.toString(), 20);
+        Check.fault(roofs + "r0 3;", 3, roofs.length());
+        Check.good(stoves, 20);
+        Check.fault(stoves + " o4 0 1 1;", 3, stoves.length() + 1);
     }
 
     private static void faultsOfBlanksAndEnds() {
-        fault("t", 1, 1);
-        fault("t ", 1, 2);
-        fault("t1", 1, 2);
-        fault("t1 1 1", 1, 6);
-        fault("t1 1 1  ", 1, 8);
-        fault("t1 1;", 1, 4);
-        fault("t1 1 1 1;", 1, 7);
-        fault("t1 1 1 1111;", 1, 7);
-        fault("t1,1 1;", 1, 2);
-        fault("t1 1 1;;", 1, 7);
-        fault("t1 1 1;s1", 1, 9);
-        fault("t1 1 1;s1,", 1, 10);
-        fault("t1 1 1;\n", 1, 7);
-        fault("t12 1 1;", 2, 1);
-        fault("  w", 1, 2);
-        good("", 0);
-        good("   ", 0);
-        good(" t 1 1 1 ; s 1 , 2 ; ", 1);
-        good("t1 1 1;p0 0 0 1 0;", 1);
+        Check.fault("t", 1, 1);
+        Check.fault("t ", 1, 2);
+        Check.fault("t1", 1, 2);
+        Check.fault("t1 1 1", 1, 6);
+        Check.fault("t1 1 1  ", 1, 8);
+        Check.fault("t1 1;", 1, 4);
+        Check.fault("t1 1 1 1;", 1, 7);
+        Check.fault("t1 1 1 1111;", 1, 7);
+        Check.fault("t1,1 1;", 1, 2);
+        Check.fault("t1 1 1;;", 1, 7);
+        Check.fault("t1 1 1;s1", 1, 9);
+        Check.fault("t1 1 1;s1,", 1, 10);
+        Check.fault("t1 1 1;\n", 1, 7);
+        Check.fault("t12 1 1;", 2, 1);
+        Check.fault("  w", 1, 2);
+        Check.good("", 0);
+        Check.good("   ", 0);
+        Check.good(" t 1 1 1 ; s 1 , 2 ; ", 1);
+        Check.good("t1 1 1;p0 0 0 1 0;", 1);
     }
 
     /** Texts of 260 letters, which end within each clause. */
@@ -216,10 +200,10 @@ public final class TownTest {
         String[] ends = {"t", "t2", "t2 2", "t2 2 1", "t2 2 1;w", "t2 2 1;w0 0 0", "t2 2 1;o0", "t2 2 1;o0 0 1 1", "t2 2 1;r0 0",
             "t2 2 1;s", "t2 2 1;s1", "t2 2 1;s1,", "t2 2 1;s1,2,3,4,5,6,7,8", "t2 2 1;p", "t2 2 1;p0 0 1 1 1"};
         for (String end : ends) {
-            fault(" ".repeat(260 - end.length()) + end, 1, 260);
+            Check.fault(" ".repeat(260 - end.length()) + end, 1, 260);
         }
-        good(" ".repeat(260), 0);
-        good(" ".repeat(253) + "t2 2 1;", 4);
+        Check.good(" ".repeat(260), 0);
+        Check.good(" ".repeat(253) + "t2 2 1;", 4);
     }
 
     private static void told() {

@@ -35,6 +35,11 @@ public final class EdgesOfImagesTest {
             x.drift(1);
             Check.due("from " + seeds[i], x.person(0, 0), pairs[i]);
         }
+        // From 5 THE SEED becomes 1222621274, which is 18655 times 65536 and 65194 over: just not one more.
+        FirstFelt x = Check.townOf("t3 3 0;p1 1 0 1 0;");
+        x.seed(5);
+        x.drift(1);
+        Check.due("cut", x.person(0, 0), 11);
     }
 
     @Says("n minutes: each PERSON in order goes by a DRAW of 5 (0 stays; a WAY, if he may, else he stays);")

@@ -381,6 +381,19 @@ public final class EdgesOfMinutesTest {
         Check.due("for good", x.person(0, 7), 2);
         Check.due("for good, he his", x.person(1, 7), 1);
         Check.due("for ever", x.cell(0, 0, 1), 0);
+        // More than one: he feels on a cell of the first one's, then on one of the second one's.
+        x = Check.townOf("t2 1 200;p0 0 0 1 0;p1 0 0 1 0;p0 0 9 1 0;");
+        x.law(3);
+        x.minute(1);
+        x.go(2, 2);
+        x.minute(1);
+        Check.due("both are his", x.person(2, 7), 3);
+        Check.due("he is the first one's", x.person(0, 7), 4);
+        Check.due("he is the second one's", x.person(1, 7), 4);
+        x.go(1, 4);
+        x.minute(1);
+        Check.due("an owner on another one's, two partners", x.person(1, 7), 5);
+        Check.due("the first one's two partners", x.person(0, 7), 6);
         // By the other laws nobody becomes a partner.
         for (int v = 0; v <= 2; v++) {
             x = Check.townOf("t1 1 100;p0 0 0 1 0;p0 0 9 1 0;");

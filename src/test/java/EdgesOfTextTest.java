@@ -74,10 +74,15 @@ public final class EdgesOfTextTest {
         Check.fault("t6 4 0;", 2, 3);
         Check.fault("t4 6 0;", 2, 3);
         Check.fault("t6 6 0;", 2, 3);
-        FirstFelt x = Check.townOf("t5 4 7;");
-        Check.due("the 20th cell", x.cell(4, 3, 0), 7);
+        FirstFelt x = Check.townOf("t5 4 40;p4 3 0 1 0;");
+        Check.due("the 20th cell", x.cell(4, 3, 0), 40);
+        x.law(1);
         x.minute(60);
-        Check.due("the 20th cell later", x.cell(4, 3, 0), 7);
+        Check.due("the 20th cell later", x.cell(4, 3, 0), 40);
+        Check.due("it is owned", x.cell(4, 3, 1), 0);
+        Check.due("one of twenty", x.person(0, 6), 1);
+        Check.due("two more of twenty may be", x.stands(0, 2, Check.NONE), 3);
+        Check.due("twenty have no rent at 40", x.rents(Check.NONE), 0);
     }
 
     @Says("HEAT B of each at first, 0 .. 200; first, once)")
@@ -93,7 +98,10 @@ public final class EdgesOfTextTest {
     @Says("'w' X Y D ';' (12 WALLS at most:")
     static void twelveWalls() {
         atMost('w', 12, " 0");
-        Check.due("all twelve", Check.townOf(many('w', 12, " 0")).told(2), 12);
+        FirstFelt x = Check.townOf(many('w', 12, " 0"));
+        Check.due("all twelve", x.told(2), 12);
+        Check.feedAll(x, many('w', 12, " 0"));
+        Check.due("twelve in the next town, too", x.town(), 20);
     }
 
     @Says("between a CELL and the one to its east (D 0) or south (D 1); each once)")
@@ -328,6 +336,16 @@ public final class EdgesOfTextTest {
             } else {
                 Check.fault(text, 1, end);
                 Check.fault(text + "   ", 1, end + 3);
+            }
+            // Letters of an earlier, longer text are no part of it.
+            for (char left : new char[] {';', ',', '1', ' '}) {
+                FirstFelt x = new FirstFelt();
+                Check.feedAll(x, String.valueOf(left).repeat(120));
+                x.town();
+                Check.feedAll(x, text);
+                boolean complete = whole.charAt(end - 1) == ';';
+                Check.due("behind " + left + ", \"" + text + "\"", x.town(), complete ? 4 : -11);
+                Check.due("behind " + left + ", fault of \"" + text + "\"", x.fault(), complete ? Check.NONE : end);
             }
         }
     }

@@ -113,6 +113,45 @@ public final class EdgesOfTownTest {
         Check.due("image 0 is gone", x.goBack(0), Check.NOT);
         Check.due("image 1 is gone", x.goBack(1), Check.NOT);
         Check.due("the seed stays", x.seed(0), 99);
+        nothingIsLeftOfEarlierTowns();
+    }
+
+    /** Towns and texts with faults ahead of a town leave nothing in it, however many they were. */
+    private static void nothingIsLeftOfEarlierTowns() {
+        String rich = "t2 1 90;w0 0 0;o0 0 60 5;r1 0;s4;p0 0 9 1 1;p0 0 10 1 0;p0 0 300 60 0;";
+        String[] nexts = {"t2 1 90;o0 0 60 5;p0 0 9 1 1;p0 0 10 1 0;p0 0 300 60 0;", "t2 1 90;", ""};
+        for (String next : nexts) {
+            for (int earlier = 1; earlier <= 3; earlier++) {
+                FirstFelt x = new FirstFelt();
+                FirstFelt faulty = new FirstFelt();
+                for (int i = 0; i < earlier; i++) {
+                    tellRich(x, rich);
+                    tellRich(faulty, rich);
+                }
+                tellNext(x, next, "behind " + earlier + " towns");
+                // A text with a fault at its end was read whole, too.
+                tellRich(faulty, rich + "x");
+                tellNext(faulty, next, "behind " + earlier + " towns and a fault");
+            }
+        }
+    }
+
+    private static void tellRich(FirstFelt x, String text) {
+        Check.feedAll(x, text);
+        x.town();
+        x.light(0);
+        x.law(3);
+        x.last(9);
+        x.minute(1);
+        x.law(0);
+        x.minute(1);
+        x.law(3);
+    }
+
+    private static void tellNext(FirstFelt x, String text, String when) {
+        Check.feedAll(x, text);
+        x.town();
+        Edges.same(when, Edges.look(Check.townOf(text)), Edges.look(x));
     }
 
     /** MINUTES, LAW, L, FROZEN, CLAIMS, DEEDS. */

@@ -580,6 +580,11 @@ public final class EdgesOfTriedTest {
     static void coldMustLeaveFromFifty() {
         Check.due("at 49 he stays", leaving(50, "").cold(0, 1), 0);
         Check.due("at 50 he must leave", leaving(51, "").cold(0, 1), 1);
+        // The first as well as the last of six may have to.
+        FirstFelt six = Check.townOf("t2 1 0;o0 0 51 1;p0 0 12 60 0;p0 0 30 1 0;p0 0 40 60 0;p0 0 40 60 0;p0 0 40 60 0;p0 0 12 60 0;");
+        six.light(0);
+        six.minute(1);
+        Check.due("the first and the last of six", six.cold(0, 1), 2);
         // Who owns it stays; so does who is on nobody's.
         FirstFelt x = Check.townOf("t2 1 0;o0 0 51 1;p0 0 12 1 0;");
         x.light(0);
@@ -720,6 +725,7 @@ public final class EdgesOfTriedTest {
             Check.due("deed " + i, x.deed(0, 0, 60), i);
         }
         Check.due("a ninth", x.deed(0, 0, 60), Check.FULL);
+        Check.due("all eight are so", x.wasLit(0, Check.NONE), 60);
         Check.due("8", x.told(14), 8);
         // From now: a minute later behind 6 minutes is what was behind 7.
         x = Check.townOf(text);

@@ -6,6 +6,10 @@ public final class EdgesOfImagesTest {
         Edges.runAll(EdgesOfImagesTest.class);
     }
 
+    private static long next(long seed) {
+        return (seed * 1103515245L + 12345L) % 2147483648L;
+    }
+
     @Says("BY DRAWS: THE SEED (0 at first: each DRAW it becomes it times 1103515245 and 12345, left over by 2 to the 31;")
     static void theSeedComesRound() {
         FirstFelt x = Check.townOf("t1 1 0;");
@@ -63,6 +67,7 @@ public final class EdgesOfImagesTest {
             x.seed(seeds[i]);
             x.drift(1);
             Check.due("off the town, way " + (i + 1), x.person(0, 0), 0);
+            Check.due("no draw more for that", x.seed(0), next(next(seeds[i])));
         }
         // He goes ahead of the minute: it is the new cell that he warms and feels.
         x = Check.townOf("t2 1 0;p0 0 0 1 9;");
@@ -86,7 +91,7 @@ public final class EdgesOfImagesTest {
             x.seed(seed);
             x.drift(1);
             Check.due("not lit from " + seed, x.stove(0, 3), 0);
-            Check.due("one draw from " + seed, x.seed(0), (seed * 1103515245L + 12345L) % 2147483648L);
+            Check.due("one draw from " + seed, x.seed(0), next(seed));
         }
         // From 59 the draws are of 0 by 20, of 1 by 2.
         x = Check.townOf("t2 1 0;w0 0 0;o0 0 60 9;o1 0 50 9;");

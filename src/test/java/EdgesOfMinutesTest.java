@@ -101,6 +101,11 @@ public final class EdgesOfMinutesTest {
         x.minute(1);
         Check.due("stove, sun, two fevers", x.cell(0, 0, 0), 18);
         Check.due("out, a roof, one fever", x.cell(1, 0, 0), 9);
+        x = Check.townOf("t2 1 0;w0 0 0;o1 0 10 9;");
+        x.light(0);
+        x.minute(1);
+        Check.due("a stove on another cell", x.cell(0, 0, 0), 0);
+        Check.due("on its own", x.cell(1, 0, 0), 10);
         // 18 and 9 stand side by side, of which 1 flows; the fever gives to where he is by then.
         x = Check.townOf("t2 1 0;o0 0 18 1;p1 0 0 60 9;");
         x.light(0);
@@ -375,7 +380,11 @@ public final class EdgesOfMinutesTest {
         Check.due("who does not", x.person(2, 7), 0);
         Check.due("an owner elsewhere", x.person(3, 7), 0);
         Check.due("as law 0", x.cell(0, 0, 1), 0);
-        x.law(0);
+        for (int v = 2; v >= 0; v--) {
+            x.law(v);
+            x.minute(1);
+            Check.due("for good, law " + v, x.person(0, 7), 2);
+        }
         x.go(0, 2);
         x.minute(60);
         Check.due("for good", x.person(0, 7), 2);

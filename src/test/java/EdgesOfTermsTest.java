@@ -184,6 +184,13 @@ public final class EdgesOfTermsTest {
             Check.due("then " + c[0] + " " + c[1], x.then(c[0], c[1], 1, 0), Check.UNKNOWN);
             Check.due("gain " + c[0] + " " + c[1], x.gain(0, c[0], c[1], 0, 1), Check.UNKNOWN);
         }
+        // In a row that is not the first, one to the west would be the end of the row ahead of it.
+        FirstFelt rows = Check.townOf("t2 2 0;p0 0 0 1 0;");
+        Check.due("cell, west of a row", rows.cell(-1, 1, 0), Check.UNKNOWN);
+        Check.due("cell, east of a row", rows.cell(2, 0, 0), Check.UNKNOWN);
+        Check.due("wall, west of a row", rows.wall(-1, 1, 0), Check.UNKNOWN);
+        Check.due("build, east of a row", rows.build(2, 0, 1, true), Check.UNKNOWN);
+        Check.due("claim, east of a row", rows.claim(0, 20, 0), Check.UNKNOWN);
         for (int pair : NO_PAIRS) {
             Check.due("claim on " + pair, x.claim(0, pair, 0), Check.UNKNOWN);
             Check.due("deed on " + pair, x.deed(0, pair, 1), Check.UNKNOWN);
@@ -298,7 +305,9 @@ public final class EdgesOfTermsTest {
         refused.put("then", x -> x.then(0, 0, 61, 0));
         refused.put("stands", x -> x.stands(0, 6, 0));
         refused.put("lightFor", x -> x.lightFor(0, 0, 5));
+        refused.put("lightFor without wood", x -> x.lightFor(0, 1, 5));
         refused.put("keptOut", x -> x.keptOut(0, 0, 5));
+        refused.put("keptOut without wood", x -> x.keptOut(0, 1, 5));
         refused.put("gain", x -> x.gain(0, 0, 0, 0, 61));
         refused.put("rents", x -> x.rents(3));
         refused.put("claim", x -> x.claim(0, 0, 60));
@@ -306,6 +315,7 @@ public final class EdgesOfTermsTest {
         refused.put("mildest", x -> x.mildest(61));
         refused.put("deed", x -> x.deed(0, 0, 61));
         refused.put("wasLit", x -> x.wasLit(0, -1));
+        refused.put("wasLit without wood", x -> x.wasLit(1, -1));
         refused.put("seed", x -> x.seed(-1));
         refused.put("goBack", x -> x.goBack(1));
         for (Map.Entry<String, ToIntFunction<FirstFelt>> call : refused.entrySet()) {

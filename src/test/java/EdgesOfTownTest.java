@@ -118,8 +118,9 @@ public final class EdgesOfTownTest {
 
     /** Towns and texts with faults ahead of a town leave nothing in it, however many they were. */
     private static void nothingIsLeftOfEarlierTowns() {
-        String rich = "t2 1 90;w0 0 0;o0 0 60 5;r1 0;s4;p0 0 9 1 1;p0 0 10 1 0;p0 0 300 60 0;";
-        String[] nexts = {"t2 1 90;o0 0 60 5;p0 0 9 1 1;p0 0 10 1 0;p0 0 300 60 0;", "t2 1 90;", ""};
+        // By the stove the first one owns and freezes, the second one becomes his partner, the third one owes.
+        String rich = "t2 1 0;w0 0 0;o0 0 60 5;r1 0;s4;p0 0 0 1 1;p0 0 10 1 0;p0 0 300 60 0;";
+        String[] nexts = {"t2 1 0;o0 0 60 5;p0 0 0 1 1;p0 0 10 1 0;p0 0 300 60 0;", "t2 1 9;", ""};
         for (String next : nexts) {
             for (int earlier = 1; earlier <= 3; earlier++) {
                 FirstFelt x = new FirstFelt();
@@ -177,8 +178,6 @@ public final class EdgesOfTownTest {
             x.deed(1, 0, 1);
             x.keep(0);
             x.minute(1);
-            Check.feedAll(x, "x");
-            x.town();
             List<Integer> before = Edges.look(x);
             Check.feedAll(x, faulty[i]);
             Check.due("town \"" + faulty[i] + "\"", x.town(), answers[i]);

@@ -134,6 +134,8 @@ public final class EdgesOfTriedTest {
         row(x, 0, 4, 0, 1, 4, 3);
         x.go(0, 4);
         row(x, 0, 4, 0, 1, 2, 3);
+        // From the middle of three a row that does not begin with staying owns more.
+        row(Check.townOf("t3 1 200;p1 0 0 1 0;"), 0, 3, 2, 4, 4);
         // Nothing to own: the first row of all is to stay.
         row(Check.townOf("t3 3 0;p1 1 0 1 0;"), 0, 0, 0, 0, 0, 0, 0);
         // Those that he OWNS then: by law 2 it is one, wherever he goes.
@@ -457,7 +459,11 @@ public final class EdgesOfTriedTest {
         Check.due("the last are so", x.forged(), 1 + 2 + 16 + 32);
         // From now: six minutes later minute 0 is another one.
         x.minute(6);
-        Check.due("from now on", x.forged() & 1, 0);
+        Check.due("from now on 0, 5, 6 are so, 15 and 16 are not", x.forged() & 31, 8 + 16);
+        x.tear();
+        x.claim(0, 0, 9);
+        x.claim(0, 0, 10);
+        Check.due("claimed in minute 6, minutes 15 and 16", x.forged(), 2);
         // 0 is the first to come: 107 to 49 and 50, then 105 to 63 and 50.
         x = Check.townOf("t1 1 49;o0 0 60 1;p0 0 49 50 0;");
         x.light(0);
@@ -513,6 +519,8 @@ public final class EdgesOfTriedTest {
         Check.due("all twelve", x.forged(), 4095);
         x.tear();
         Check.due("none behind tear", x.forged(), 0);
+        x.claim(0, 0, 59);
+        Check.due("one anew", x.forged(), 1);
     }
 
     /**
@@ -732,6 +740,11 @@ public final class EdgesOfTriedTest {
         x.deed(0, 0, 6);
         x.minute(1);
         Check.due("from now on", x.wasLit(0, Check.NONE), 60);
+        x.tear();
+        x.deed(0, 0, 6);
+        Check.due("written in minute 1", x.wasLit(0, Check.NONE), 60);
+        x.deed(0, 0, 5);
+        Check.due("written in minute 1, too early", x.wasLit(0, Check.NONE), 0);
         // Behind just m minutes: by law 1 with L 1 he owns it till minute 16, which is behind 17, and from minute 54 on.
         int[] ms = {17, 18, 54, 55};
         int[] fits = {60, 0, 0, 60};

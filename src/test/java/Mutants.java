@@ -44,7 +44,7 @@ final class Mutants {
                 return source;
             }
         };
-        List<String> options = List.of("-proc:none", "-nowarn", "--release", "17");
+        List<String> options = List.of("-proc:none", "-nowarn");
         if (!compiler.getTask(null, into, problem -> { }, options, null, List.of(text)).call()) {
             return null;
         }

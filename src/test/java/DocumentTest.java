@@ -1,12 +1,18 @@
 import java.io.IOException;
+import java.lang.reflect.Executable;
 import java.lang.reflect.Method;
+import java.lang.reflect.Modifier;
 import java.nio.file.Files;
 import java.nio.file.Path;
+import java.util.Arrays;
 import java.util.BitSet;
+import java.util.Set;
+import java.util.TreeSet;
 import java.util.regex.Matcher;
 import java.util.regex.Pattern;
+import java.util.stream.Collectors;
 
-/** Each test of a boundary quotes DOC.md word for word, and each boundary of DOC.md is quoted by a test. */
+/** Each test of a boundary quotes DOC.md word for word, each boundary of DOC.md is quoted by a test, its face is the class's. */
 public final class DocumentTest {
     /** How DOC.md tells boundaries: bounds, mosts and leasts, refusals, what is at first, again, empty. */
     private static final Pattern MARKS = Pattern.compile("\\d \\.\\. |\\bat most\\b|\\bor more\\b|\\bno more than\\b|\\babove\\b|\\bbelow\\b"
@@ -14,7 +20,9 @@ public final class DocumentTest {
             + "|\\bthe least\\b|\\bthe first\\b|\\bleft over\\b|\\bcut\\b|\\bno CELLS?\\b|\\bNo CELLS\\b|\\bfor ever\\b|\\bstays\\b");
 
     public static void main(String[] args) throws IOException {
-        String doc = oneLine(Files.readString(Path.of("../shared/DOC.md")));
+        String page = Files.readString(Path.of("../shared/DOC.md"));
+        faceIsAsShown(ReadmeTest.blockOf(page, "```java\n"));
+        String doc = oneLine(page);
         BitSet quoted = new BitSet(doc.length());
         for (Class<?> holder : Edges.classes()) {
             for (Method test : Edges.testsOf(holder)) {
@@ -23,6 +31,29 @@ public final class DocumentTest {
         }
         boundariesAreQuoted(doc, quoted);
         Check.end("DocumentTest");
+    }
+
+    private static void faceIsAsShown(String shown) {
+        Set<String> due = new TreeSet<>();
+        Matcher heads = Pattern.compile("public (?:int (\\w+)|FirstFelt)\\(([^)]*)\\);").matcher(shown);
+        while (heads.find()) {
+            due.add((heads.group(1) == null ? "FirstFelt" : heads.group(1)) + "(" + heads.group(2).replaceAll(" ?(\\w+) \\w+", "$1") + ")");
+        }
+        Set<String> is = new TreeSet<>();
+        for (Executable one : FirstFelt.class.getConstructors()) {
+            is.add("FirstFelt(" + typesOf(one) + ")");
+        }
+        for (Method one : FirstFelt.class.getDeclaredMethods()) {
+            if (Modifier.isPublic(one.getModifiers())) {
+                is.add(one.getName() + "(" + typesOf(one) + ")");
+            }
+        }
+        Check.due("calls that DOC.md shows", due.size(), 33);
+        Check.due("the face is " + is + ", as DOC.md shows " + due, is.equals(due) ? 1 : 0, 1);
+    }
+
+    private static String typesOf(Executable one) {
+        return Arrays.stream(one.getParameterTypes()).map(Class::getName).collect(Collectors.joining(","));
     }
 
     private static String oneLine(String text) {

@@ -179,6 +179,70 @@ public final class EdgesOfImagesTest {
         Check.due("the text stays", x.told(7), 1);
         imagesKeepFeltOfLaterMinutes();
         imagesKeepPartnersAndDues();
+        imagesKeepTheLastOfAll();
+        imagesKeepFeltOfTheLastCell();
+    }
+
+    private static void lastOfAll(String when, FirstFelt x, int[] cell, int[] stove, int[] person) {
+        for (int what = 0; what < cell.length; what++) {
+            Check.due(when + ", cell " + what, x.cell(4, 3, what), cell[what]);
+        }
+        for (int what = 0; what < stove.length; what++) {
+            Check.due(when + ", stove " + what, x.stove(3, what), stove[what]);
+        }
+        for (int what = 0; what < person.length; what++) {
+            Check.due(when + ", person " + what, x.person(5, what), person[what]);
+        }
+    }
+
+    /**
+     * The 20th cell, the fourth stove, the sixth person. In minute 0 its heat becomes 118, 59 elsewhere; the sixth owns it, the
+     * fifth feels it, too, and becomes his partner by law 3, the fourth owes. Then the sixth goes west, where the third one owns,
+     * and owes in minute 1, by law 0: heat there is 59 and 7 from the east, 65; his skin gets 29 and 38. The heat that he left
+     * is 118 less 14 and with 60 more, 161.
+     */
+    private static void imagesKeepTheLastOfAll() {
+        FirstFelt x = Check.townOf("t5 4 60;o0 0 1 1;o1 0 1 1;o2 0 1 1;o4 3 60 9;p0 0 60 60 0;p0 0 60 60 0;"
+                + "p3 3 0 1 0;p4 3 200 60 0;p4 3 9 60 0;p4 3 0 1 0;");
+        x.keep(0);
+        x.light(3);
+        x.law(3);
+        x.minute(1);
+        x.law(0);
+        x.go(5, 4);
+        x.minute(1);
+        x.build(3, 3, 0, true);
+        x.build(4, 2, 1, true);
+        x.keep(1);
+        int[] cell = {161, 5, 0, 24};
+        int[] stove = {43, 60, 7, 1};
+        int[] person = {33, 38, 1, 0, 1, 2, 1, 16};
+        lastOfAll("behind two minutes", x, cell, stove, person);
+        x.goBack(0);
+        lastOfAll("at first", x, new int[] {60, Check.NONE, 0, 56}, new int[] {43, 60, 9, 0}, new int[] {43, 0, 1, 0, 0, 0, 0, 0});
+        Check.due("no wall to the west", x.go(4, 4), 33);
+        Check.due("back", x.go(4, 2), 43);
+        Check.due("no wall to the north", x.go(4, 1), 42);
+        x.goBack(1);
+        lastOfAll("behind two minutes again", x, cell, stove, person);
+        Check.due("a wall to the west", x.go(4, 4), Check.NOT);
+        Check.due("a wall to the north", x.go(4, 1), Check.NOT);
+    }
+
+    private static void imagesKeepFeltOfTheLastCell() {
+        FirstFelt x = Check.townOf("t5 4 49;p4 3 0 1 0;");
+        x.minute(1);
+        x.go(0, 4);
+        x.keep(0);
+        x.go(0, 2);
+        x.minute(2);
+        x.goBack(0);
+        x.law(1);
+        x.last(1);
+        x.minute(1);
+        Check.due("the last cell, felt a minute ago", x.cell(4, 3, 1), 0);
+        x.minute(1);
+        Check.due("the last cell, felt two minutes ago", x.cell(4, 3, 1), Check.NONE);
     }
 
     /** An image of a later minute, gone back to from an earlier one that has felt less. */

@@ -134,6 +134,10 @@ public final class EdgesOfTriedTest {
         row(x, 0, 4, 0, 1, 4, 3);
         x.go(0, 4);
         row(x, 0, 4, 0, 1, 2, 3);
+        // Walls hold in the last cell of 20 as well.
+        row(Check.townOf("t5 4 200;w3 3 0;w4 2 1;p4 3 0 1 0;"), 0, 1, 0, 0);
+        row(Check.townOf("t5 4 200;w4 2 1;p4 3 0 1 0;"), 0, 2, 0, 4);
+        row(Check.townOf("t5 4 200;w3 3 0;p4 3 0 1 0;"), 0, 2, 0, 1);
         // From the middle of three a row that does not begin with staying owns more.
         row(Check.townOf("t3 1 200;p1 0 0 1 0;"), 0, 3, 2, 4, 4);
         // Nothing to own: the first row of all is to stay.
@@ -165,6 +169,9 @@ public final class EdgesOfTriedTest {
         Check.due("the last way", x.stands(0, 5, 4), 0);
         Check.due("not so many", x.stands(0, 5, 5), Check.NONE);
         Check.due("far from so many", x.stands(0, 5, Integer.MAX_VALUE), Check.NONE);
+        // No bounds of i are told, so that there is no way ahead of a minute below 0 either.
+        Check.due("below NONE", x.stands(0, 5, -2), Check.NONE);
+        Check.due("far below NONE", x.stands(0, 5, Integer.MIN_VALUE), Check.NONE);
         Check.due("of one", x.stands(0, 1, 0), 0);
         Check.due("not so many as one", x.stands(0, 1, 1), Check.NONE);
         Check.due("nobody", x.stands(1, 1, 0), Check.UNKNOWN);
@@ -299,6 +306,28 @@ public final class EdgesOfTriedTest {
         x = Check.townOf("t1 2 49;o0 0 20 99;p0 0 49 33 0;");
         x.light(0);
         Check.due("a wall to the south", x.gain(0, 0, 0, 1, 2), 1);
+        gainOfAnyWall();
+    }
+
+    /** The last of five needs 53 and 28 in the second minute: heat is 68, then 79, and with one wall on any side 81. */
+    private static void gainOfAnyWall() {
+        int[][] walls = {{3, 0, 1}, {3, 1, 0}, {3, 1, 1}, {2, 1, 0}};
+        for (int[] wall : walls) {
+            FirstFelt x = Check.townOf("t5 3 49;o3 1 20 99;" + "p0 0 49 60 0;".repeat(4) + "p3 1 49 28 0;");
+            x.light(0);
+            String which = "wall " + wall[0] + " " + wall[1] + " " + wall[2];
+            Check.due(which, x.gain(4, wall[0], wall[1], wall[2], 2), 1);
+            Check.due(which + ", for another one", x.gain(3, wall[0], wall[1], wall[2], 2), 0);
+            x.build(wall[0], wall[1], wall[2], true);
+            Check.due(which + ", though it is there", x.gain(4, wall[0], wall[1], wall[2], 2), 1);
+            Check.due(which + " is there, one elsewhere", x.gain(4, 0, 1, 0, 2), 0);
+        }
+        // With 1 to notice he owns it anyway.
+        FirstFelt x = Check.townOf("t5 3 49;o3 1 20 99;" + "p0 0 49 60 0;".repeat(4) + "p3 1 49 1 0;");
+        x.light(0);
+        for (int[] wall : walls) {
+            Check.due("with it and without it", x.gain(4, wall[0], wall[1], wall[2], 2), 0);
+        }
     }
 
     @Says("GAIN (may be below 0). UNKNOWN (no CELL there, too), OUTSIDE (d, n).")
@@ -569,18 +598,25 @@ public final class EdgesOfTriedTest {
         int[] freeze = {1, 2, 2, 2};
         for (int i = 0; i < lastings.length; i++) {
             FirstFelt x = Check.townOf("t2 1 0;w0 0 0;o0 0 24 99;p0 0 20 1 0;p1 0 10 60 0;");
-            x.light(0);
-            x.minute(1);
-            x.build(0, 0, 0, false);
-            x.go(0, 2);
-            x.build(0, 0, 0, true);
-            x.minute(1);
-            x.build(0, 0, 0, false);
-            x.go(1, 4);
+            comeIn(x);
             x.last(lastings[i]);
             Check.due("owner", x.cell(0, 0, 1), 0);
             Check.due("L " + lastings[i], x.cold(1, 2), freeze[i]);
         }
+    }
+
+    /** All stoves are lit; the first one owns the warm cell and leaves it behind a minute, the second one comes in behind another. */
+    private static void comeIn(FirstFelt x) {
+        for (int k = 0; k < x.told(3); k++) {
+            x.light(k);
+        }
+        x.minute(1);
+        x.build(0, 0, 0, false);
+        x.go(0, 2);
+        x.build(0, 0, 0, true);
+        x.minute(1);
+        x.build(0, 0, 0, false);
+        x.go(1, 4);
     }
 
     @Says("PEOPLE who freeze within n minutes if each who is on a CELL of HEAT 50 or more that another one OWNS (not his PARTNER)"
@@ -672,6 +708,37 @@ public final class EdgesOfTriedTest {
         x.light(0);
         x.minute(1);
         Check.due("or stays", x.cold(0, 1), 0);
+        coldGoesToHisOwnAndHisPartners();
+        // Not through the walls of the last cell of 20: he stays there at 50, or goes north, where it is cold.
+        for (int walls = 0; walls <= 1; walls++) {
+            x = Check.townOf("t5 4 0;w3 3 0;o4 3 51 1;p4 3 30 1 0;p4 3 12 60 0;");
+            x.light(0);
+            x.minute(1);
+            x.build(4, 2, 1, walls == 1);
+            Check.due("in the last cell, walls to the north " + walls, x.cold(0, 1), 1 - walls);
+        }
+    }
+
+    /**
+     * Both cells have 50. The first one's skin is 21; in the north, which has 38 then, it gets 25, elsewhere, at 6, it gets 18.
+     * Who has a skin of 11 owns the north in his stead, and becomes his partner by law 3; his skin gets 20 and 24.
+     */
+    private static void coldGoesToHisOwnAndHisPartners() {
+        String text = "t3 3 0;o1 1 51 1;o1 0 51 1;p1 0 12 1 0;p1 1 30 1 0;";
+        String[] others = {"", "p1 0 11 1 0;", "p1 0 11 1 0;"};
+        int[] laws = {0, 3, 0};
+        int[] freeze = {0, 0, 1};
+        for (int i = 0; i < laws.length; i++) {
+            FirstFelt x = Check.townOf(text + others[i]);
+            x.light(0);
+            x.light(1);
+            x.law(laws[i]);
+            x.minute(1);
+            Check.due("the north is", x.cell(1, 0, 1), i == 0 ? 0 : 2);
+            Check.due("partners", x.person(0, 7), i == 1 ? 4 : 0);
+            x.go(0, 3);
+            Check.due("to his own, to his partner's, to neither " + i, x.cold(0, 1), freeze[i]);
+        }
     }
 
     @Says("MILDEST: the LAW by which fewest do; of like ones the least.")
@@ -690,6 +757,41 @@ public final class EdgesOfTriedTest {
         Check.due("of as many the least", leaving(51, "").mildest(1), 0);
         x.law(3);
         Check.due("whatever the law is", x.mildest(1), 0);
+        mildestOfAllFour();
+    }
+
+    /**
+     * The upper row is what lastingMatters tells. In the lower one all is the same, but that its owner stayed and felt in minute
+     * 1, too, so that with L 1 he still owns it in minute 2; his skin is 27, 22, 20. Nobody new feels 65 with a skin of 6 and 60
+     * to notice: by law 3 as many freeze as by law 0.
+     */
+    private static void mildestOfAllFour() {
+        int[] lastings = {1, 2};
+        int[][] freeze = {{3, 2, 1, 3}, {3, 3, 1, 3}};
+        for (int i = 0; i < lastings.length; i++) {
+            FirstFelt x = Check.townOf("t2 2 0;w0 0 0;w0 1 0;w0 0 1;w1 0 1;o0 0 24 99;o0 1 24 99;"
+                    + "p0 0 20 1 0;p1 0 10 60 0;p0 1 20 1 0;p1 1 10 60 0;");
+            comeIn(x);
+            x.build(0, 1, 0, false);
+            x.go(2, 2);
+            x.go(3, 4);
+            x.last(lastings[i]);
+            for (int v = 0; v <= 3; v++) {
+                Check.due("L " + lastings[i] + ", law " + v, x.cold(v, 2), freeze[i][v]);
+            }
+            Check.due("ever fewer, then more", x.mildest(2), 2);
+        }
+        // The upper row alone.
+        int[][] alone = {{2, 1, 1, 2}, {2, 2, 1, 2}};
+        for (int i = 0; i < lastings.length; i++) {
+            FirstFelt x = Check.townOf("t2 1 0;w0 0 0;o0 0 24 99;p0 0 20 1 0;p1 0 10 60 0;");
+            comeIn(x);
+            x.last(lastings[i]);
+            for (int v = 0; v <= 3; v++) {
+                Check.due("alone, L " + lastings[i] + ", law " + v, x.cold(v, 2), alone[i][v]);
+            }
+            Check.due("of 1 and 2 the least, or only 2", x.mildest(2), i == 0 ? 1 : 2);
+        }
     }
 
     @Says("COLD (n 1 .. 60): how many. OUTSIDE.")
@@ -785,6 +887,16 @@ public final class EdgesOfTriedTest {
         // All deeds: one that cannot be so leaves nothing.
         x.deed(0, 0, 60);
         Check.due("not both", x.wasLit(0, Check.NONE), 0);
+        // Without the stove the first one feels the sun in minute 18, 58 to 52 and 5, so that it may be lit late, till 59. But in
+        // minute 18 both make 88, which the second one feels, too, with 46 and 35.
+        x = Check.townOf(RIVALS + "s0,0,0,10;");
+        Check.due("his without it", x.then(0, 0, 60, 1), 0);
+        x.deed(0, 0, 60);
+        Check.due("from 3 on, but for 18", x.wasLit(0, Check.NONE), 56);
+        for (int i = 0; i < 56; i++) {
+            Check.due("the one of " + i, x.wasLit(0, i), i < 15 ? i + 3 : i + 4);
+        }
+        Check.due("none behind 59", x.wasLit(0, 56), Check.NONE);
     }
 
     @Says("A DEED (a CELL as a PAIR): how many. UNKNOWN, OUTSIDE, FULL (8).")
@@ -813,6 +925,8 @@ public final class EdgesOfTriedTest {
         Check.due("the last", x.wasLit(0, 59), 59);
         Check.due("not so many", x.wasLit(0, 60), Check.NONE);
         Check.due("far from so many", x.wasLit(0, Integer.MAX_VALUE), Check.NONE);
+        Check.due("below NONE", x.wasLit(0, -2), Check.NONE);
+        Check.due("far below NONE", x.wasLit(0, Integer.MIN_VALUE), Check.NONE);
         Check.due("it has no wood", x.wasLit(1, Check.NONE), Check.NOT);
         Check.due("it has no wood, the first", x.wasLit(1, 0), Check.NOT);
         Check.due("no stove", x.wasLit(2, Check.NONE), Check.UNKNOWN);

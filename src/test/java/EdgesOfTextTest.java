@@ -376,6 +376,11 @@ public final class EdgesOfTextTest {
             }
             if (c != ';' && c != ' ' && (c < '0' || c > '9')) {
                 Check.fault("t1 1 0" + c, 1, 6);
+                Check.fault("t1 1 0;s1,2" + c, 1, c == ',' ? 12 : 11);
+                if (c != ',') {
+                    Check.fault("t1 1 0;s1" + c + "2;", 1, 9);
+                    Check.fault("t1 1 0;s1,2 " + c + " 3;", 1, 12);
+                }
             }
         }
         for (String word : new String[] {"w0 0 0;", "o0 0 1 1;", "r0 0;", "s1;", "p0 0 0 1 0;"}) {

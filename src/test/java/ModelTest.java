@@ -24,7 +24,35 @@ public final class ModelTest {
         for (int seed = 0; seed < runs; seed++) {
             new ModelTest(seed).run();
         }
+        for (String text : new String[] {"t3 2 40;w0 0 0;o0 0 50 12;r1 1;s4,0;p0 1 30 20 3;", " t 5 4 0 ; s1,2,3,4,5,6,7 , 8 ; "}) {
+            everyLetterAtEveryPlace(text);
+        }
         Check.end("ModelTest");
+    }
+
+    /** A text up to each of its letters, and with each letter there is in its stead and ahead of it. */
+    private static void everyLetterAtEveryPlace(String text) {
+        for (int at = 0; at <= text.length(); at++) {
+            String ahead = text.substring(0, at);
+            compareText(ahead);
+            for (int letter = 0; letter <= 255; letter++) {
+                compareText(ahead + (char) letter + text.substring(at));
+                compareText(ahead + (char) letter + text.substring(Math.min(text.length(), at + 1)));
+            }
+        }
+    }
+
+    private static void compareText(String text) {
+        FirstFelt made = new FirstFelt();
+        Check.feedAll(made, text);
+        PlainTown due = PlainTown.told(text);
+        Check.due("town \"" + text + "\"", made.town(), due.faultKind == 0 ? due.w * due.h : -10 - due.faultKind);
+        Check.due("fault \"" + text + "\"", made.fault(), due.faultAt);
+        boolean good = due.faultKind == 0;
+        int[] tolds = {due.w, due.h, due.walls.size(), due.stoves.size(), due.roofs.size(), due.sun.size(), due.people.size()};
+        for (int what = 0; what < tolds.length; what++) {
+            Check.due("told " + what + " of \"" + text + "\"", made.told(what), good ? tolds[what] : 0);
+        }
     }
 
     private void run() {
